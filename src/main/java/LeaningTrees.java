@@ -158,7 +158,7 @@ public final class LeaningTrees {
     // ---- order
 
     public int below(int shelf, int what) {
-        int refused = refusal(shelf, what, 1);
+        int refused = refusalOfTwo(shelf, what);
         if (refused != FINE) {
             return refused;
         }
@@ -168,7 +168,7 @@ public final class LeaningTrees {
     }
 
     public int meet(int shelf, int what) {
-        int refused = refusal(shelf, what, 1);
+        int refused = refusalOfTwo(shelf, what);
         if (refused != FINE) {
             return refused;
         }
@@ -204,7 +204,7 @@ public final class LeaningTrees {
     }
 
     public int way(int shelf, int what) {
-        int refused = refusal(shelf, what, 1);
+        int refused = refusalOfTwo(shelf, what);
         if (refused != FINE) {
             return refused;
         }
@@ -221,7 +221,7 @@ public final class LeaningTrees {
     }
 
     public int chain(int shelf, int what) {
-        int refused = refusal(shelf, what, 1);
+        int refused = refusalOfTwo(shelf, what);
         if (refused != FINE) {
             return refused;
         }
@@ -543,8 +543,9 @@ public final class LeaningTrees {
         return forest.sizeOf(shelves[shelf]) == size() ? FINE : OTHER;
     }
 
-    private int refusal(int shelf, int what, int mostWhat) {
-        return what < 0 || what > mostWhat ? NONE : refusal(shelf);
+    /** Of the calls that answer two questions, 0 and 1, about a shelf's tree. */
+    private int refusalOfTwo(int shelf, int what) {
+        return what < 0 || what > 1 ? NONE : refusal(shelf);
     }
 
     private int shelvesInUse() {
@@ -675,7 +676,10 @@ public final class LeaningTrees {
         // ---- one node
 
         int rightSize(int place, int i) {
-            return digitOf(codeOf(place), sizeOf(place), i);
+            if (place < 0 || place >= PLACES) {
+                return 0;
+            }
+            return (codes[place] >> BITS * (sizes[place] - 1 - i)) & ONE_NODE;
         }
 
         /** The last NODE of what hangs at a NODE. */
@@ -787,10 +791,10 @@ public final class LeaningTrees {
         /** The last NODE never has a right child, so this is the CANOPY too. */
         int withRightChild(int place) {
             int bits = 0;
-            for (int i = 0; i < sizeOf(place); i++) {
-                if (rightSize(place, i) > 0) {
-                    bits |= 1 << i;
-                }
+            int code = codeOf(place);
+            for (int i = sizeOf(place); i > 0; i--) {
+                bits = (bits << 1) | ((code & ONE_NODE) > 0 ? 1 : 0);
+                code >>= BITS;
             }
             return bits;
         }
@@ -935,8 +939,8 @@ public final class LeaningTrees {
             return noMore(forest.codeOf(lower), forest.codeOf(upper));
         }
 
-        private boolean isWithin(int lower, int place, int upper) {
-            return isBelow(lower, place) && isBelow(place, upper);
+        private static boolean isWithin(int lowerCode, int code, int upperCode) {
+            return noMore(lowerCode, code) && noMore(code, upperCode);
         }
 
         int meetOrJoin(int one, int other, boolean join) {
@@ -973,9 +977,11 @@ public final class LeaningTrees {
 
         /** A tree BELOW another has no greater NUMBER, so what is BETWEEN stands from one to the other. */
         int howManyBetween(int lower, int upper) {
+            int lowerCode = forest.codeOf(lower);
+            int upperCode = forest.codeOf(upper);
             int found = 0;
             for (int place = lower; place <= upper; place++) {
-                if (isWithin(lower, place, upper)) {
+                if (isWithin(lowerCode, forest.codeOf(place), upperCode)) {
                     found++;
                 }
             }
@@ -984,9 +990,11 @@ public final class LeaningTrees {
 
         /** NOTHING, if there are not so many. */
         int nthBetween(int lower, int upper, int nth) {
+            int lowerCode = forest.codeOf(lower);
+            int upperCode = forest.codeOf(upper);
             int ahead = 0;
             for (int place = lower; place <= upper; place++) {
-                if (isWithin(lower, place, upper)) {
+                if (isWithin(lowerCode, forest.codeOf(place), upperCode)) {
                     if (ahead == nth) {
                         return place;
                     }
@@ -998,15 +1006,18 @@ public final class LeaningTrees {
 
         /** The first one must be BELOW the second. Marks of 0 add nothing, so they are not held. */
         int markOf(int lower, int upper) {
+            int lowerCode = forest.codeOf(lower);
+            int upperCode = forest.codeOf(upper);
             int held = 0;
             int mark = 0;
             for (int place = lower; place <= upper; place++) {
-                if (!isWithin(lower, place, upper)) {
+                int code = forest.codeOf(place);
+                if (!isWithin(lowerCode, code, upperCode)) {
                     continue;
                 }
-                mark = place == lower ? 1 : -sumBelow(place, held);
+                mark = place == lower ? 1 : -sumBelow(code, held);
                 if (mark != 0 && held < Forest.MOST_TREES) {
-                    markedCodes[held] = forest.codeOf(place);
+                    markedCodes[held] = code;
                     marks[held] = mark;
                     held++;
                 }
@@ -1014,8 +1025,7 @@ public final class LeaningTrees {
             return mark;
         }
 
-        private int sumBelow(int place, int held) {
-            int code = forest.codeOf(place);
+        private int sumBelow(int code, int held) {
             int sum = 0;
             for (int i = 0; i < held && i < Forest.MOST_TREES; i++) {
                 if (noMore(markedCodes[i], code)) {
@@ -1029,8 +1039,9 @@ public final class LeaningTrees {
             int last = forest.lastOf(size);
             int found = 0;
             for (int lower = forest.firstOf(size); lower <= last; lower++) {
+                int lowerCode = forest.codeOf(lower);
                 for (int upper = lower; upper <= last; upper++) {
-                    if (isBelow(lower, upper)) {
+                    if (noMore(lowerCode, forest.codeOf(upper))) {
                         found++;
                     }
                 }
