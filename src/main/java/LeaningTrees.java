@@ -842,7 +842,7 @@ public final class LeaningTrees {
 
         /** What comes in left of the first NODE is right of no NODE, so both ROWS stay. */
         int setOver(int one, int other) {
-            return joined(codeOf(one), one, other);
+            return sideBySide(codeOf(one), one, other);
         }
 
         /** What comes in right of the last NODE is right of all NODES whose right side it ends. */
@@ -854,10 +854,10 @@ public final class LeaningTrees {
                     code += digitAt(sizeOf(other), size, i);
                 }
             }
-            return joined(code, one, other);
+            return sideBySide(code, one, other);
         }
 
-        private int joined(int code, int one, int other) {
+        private int sideBySide(int code, int one, int other) {
             return find(sizeOf(one) + sizeOf(other), (code << BITS * sizeOf(other)) | codeOf(other));
         }
 

@@ -997,10 +997,10 @@ public final class ModelTest {
     }
 
     /** One shelf's tree against every tree, with a new object ahead of its 512th call. */
-    private static void everyPair(int n, int step) {
+    private static void everyPair(int n) {
         World world = WORLDS[n];
         int many = world.trees.size();
-        for (int goal = 0; goal < many; goal += step) {
+        for (int goal = 0; goal < many; goal++) {
             LeaningTrees x = null;
             for (int k = 0; k < many; k++) {
                 if (k % 40 == 0) {
@@ -1039,9 +1039,9 @@ public final class ModelTest {
         for (int n = 1; n <= 7; n++) {
             orderComesOfTurns(WORLDS[n]);
             everyTree(n);
-            everyPair(n, n < 7 ? 1 : 16);
+            everyPair(n);
         }
-        for (int number = 1; number <= 600; number++) {
+        for (int number = 1; number <= 2000; number++) {
             run(number);
         }
         System.out.println(asked + " answers looked at, " + wrong + " wrong");
