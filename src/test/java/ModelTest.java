@@ -916,15 +916,18 @@ public final class ModelTest {
         return text.length() + 2;
     }
 
+    /** An object is promised for 512 calls; the last two look at how the run has ended. */
+    private static final int MOST_CALLS = 510;
+
     private static void run(int number) {
         seed = number * 7919L;
         LeaningTrees x = new LeaningTrees();
         Model m = new Model();
         int calls = 0;
-        while (calls < 512) {
+        while (calls < MOST_CALLS) {
             String at = "run " + number + " call " + calls + ": ";
             if (below(60) == 0) {
-                calls += feedText(x, m, at, 512 - calls);
+                calls += feedText(x, m, at, MOST_CALLS - calls);
             } else {
                 oneCall(x, m, at);
                 calls++;

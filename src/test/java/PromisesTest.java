@@ -557,11 +557,11 @@ public final class PromisesTest {
         }
         // The greatest ways of all trees of n nodes are known: 0 1 2 4 5 7 9.
         int[] greatest = {0, 1, 2, 4, 5, 7, 9};
+        int[] many = {1, 2, 5, 14, 42, 132, 429};
         for (int n = 1; n <= 7; n++) {
-            x = new LeaningTrees();
-            x.nodes(n);
             int most = 0;
-            for (int k = 0; k < x.many(n); k++) {
+            for (int k = 0; k < many[n - 1]; k++) {
+                x = with(n, 0);
                 x.number(k);
                 most = Math.max(most, x.far(0));
             }
