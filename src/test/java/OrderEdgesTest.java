@@ -503,6 +503,20 @@ public final class OrderEdgesTest {
         Edges.due("all of one", leastAndGreatest(1).mark(0), 1);
     }
 
+    @Edges.Says(words = "MARKS in the sum are those of the first and each of these TREES.")
+    private static void marksAskedOneBehindTheOther() {
+        for (int goal : new int[] {0, 3, 20, 40, 41}) {
+            LeaningTrees x = leastAndGreatest(5);
+            Edges.due("mark(0) of all", x.mark(0), 1);
+            x.number(goal);
+            x.keep(0);
+            for (int k = 0; k < Edges.MANY[5]; k++) {
+                x.number(k);
+                Edges.due("mark(0) of " + k + " and " + goal, x.mark(0), numbered(5, k, goal).mark(0));
+            }
+        }
+    }
+
     @Edges.Says(promise = 20, words = "-100 less NONE, EMPTY, OTHER, NOT (it is not BELOW that), so -99, -94, -93, -95.")
     private static void markNone() {
         Edges.takes("mark", Edges::shelved, LeaningTrees::mark, 0, 3, -99);

@@ -180,6 +180,39 @@ public final class ShelfEdgesTest {
         Edges.due("digits()", x.digits(), 3210000);
     }
 
+    /** The numbers of two rows side by side; those that the test names have more at their right. */
+    private static void dueBeside(LeaningTrees x, LeaningTrees first, LeaningTrees second, boolean under) {
+        int n = first.count(0);
+        int m = second.count(0);
+        for (int i = 0; i < n; i++) {
+            int b = first.of(i, 0);
+            Edges.due("of(" + i + ", 0)", x.of(i, 0), under && i + b == n - 1 ? b + m : b);
+        }
+        for (int i = 0; i < m; i++) {
+            Edges.due("of(" + (n + i) + ", 0)", x.of(n + i, 0), second.of(i, 0));
+        }
+    }
+
+    @Edges.Says(words = "A OVER B: B, and where its NODE 0 has no left child A stands. A UNDER B: A, and where its last NODE has no right child B stands.")
+    private static void allThatCanBeSetTogether() {
+        for (int n = 1; n <= 6; n++) {
+            for (int held = 1; n + held <= 7; held++) {
+                for (int k = 0; k < Edges.MANY[n] * Edges.MANY[held]; k++) {
+                    LeaningTrees mine = Edges.tree(n, 0);
+                    mine.number(k % Edges.MANY[n]);
+                    LeaningTrees theirs = Edges.tree(held, 0);
+                    theirs.number(k / Edges.MANY[n]);
+                    LeaningTrees x = two(n, mine.digits(), held, theirs.digits());
+                    x.over(0);
+                    dueBeside(x, theirs, mine, false);
+                    x.off();
+                    x.under(0);
+                    dueBeside(x, mine, theirs, true);
+                }
+            }
+        }
+    }
+
     @Edges.Says(promise = 29, words = "FULL: above 7.")
     private static void overAboveSeven() {
         LeaningTrees x = two(4, 2100, 4, 1010);
@@ -261,8 +294,16 @@ public final class ShelfEdgesTest {
     }
 
     @Edges.Says(words = "What tells what is so already is no STEP, also by over(), under()")
-    private static void aRefusedOverOrUnderIsNoStep() {
-        LeaningTrees x = two(7, 10, 7, 10);
+    private static void overAndUnderAreStepsJustIfTheyAreNotRefused() {
+        LeaningTrees x = two(1, 0, 1, 0);
+        for (int n = 2; n <= 7; n++) {
+            Edges.due("over() or under()", n % 2 == 0 ? x.over(0) : x.under(0), n);
+            Edges.due("count(1), NODES are more, so it is otherwise", x.count(1), n - 1);
+        }
+        x.over(0);
+        x.under(0);
+        Edges.due("count(1) behind FULL", x.count(1), 6);
+        x = two(7, 10, 7, 10);
         int steps = x.count(1);
         x.over(0);
         x.under(0);

@@ -427,6 +427,24 @@ public final class TreeEdgesTest {
         }
     }
 
+    @Edges.Says(words = "b(c) becomes b(c) plus 1 plus b(i), all else stays.")
+    private static void aTurnUpChangesOneNumber() {
+        for (int n = 2; n <= 7; n++) {
+            for (int k = 0; k < Edges.MANY[n]; k++) {
+                for (int c = 0; c < n; c++) {
+                    LeaningTrees x = numbered(n, k);
+                    int parent = x.of(c, 1);
+                    int grown = parent < 0 ? 0 : 1 + x.of(parent, 0);
+                    int before = x.digits();
+                    if (x.turn(c) >= 0) {
+                        Edges.due("digits() behind turn(" + c + ")", x.digits(), before + at(n, c, grown));
+                        Edges.due("of(c, 3), what was above it", x.of(c, 3), parent);
+                    }
+                }
+            }
+        }
+    }
+
     @Edges.Says(promise = 9, words = "NONE: c")
     private static void noSuchNodeToTurnUp() {
         for (int n = 1; n <= 7; n++) {
